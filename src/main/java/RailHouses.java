@@ -496,7 +496,7 @@ public final class RailHouses {
             weight = other.weight;
         }
 
-        /** Doubles at least, so that many small steps do not use up the room for arrays. */
+        /** Doubles at least: many small steps would use up the room that there is for arrays. */
         void widen(int most) {
             if (most > codes.length) {
                 codes = new int[Math.max(most, 2 * codes.length)];
@@ -616,7 +616,7 @@ public final class RailHouses {
         }
     }
 
-    /** What a pull is asked: steps over a stack, each a word's number, a sign, or A_NUMBER. */
+    /** The law as steps over a stack, each a word's number, a sign, or A_NUMBER. */
     private static final class Law {
         static final int A_NUMBER = '0';
         private static final int MOST_STEPS = 512;
@@ -657,18 +657,19 @@ public final class RailHouses {
             given[Tokens.WEIGHT] = weight;
             given[Tokens.LENGTH] = length;
             int high = 0;
-            for (int i = 0; i < size; i++) {
+            for (int i = 0; i < size && high < MOST_STEPS; i++) {
                 int kind = kinds[i];
                 if (kind == A_NUMBER) {
-                    stack[high++] = values[i];
+                    stack[high] = values[i];
+                    high++;
                 } else if (kind == Tokens.TAKES) {
-                    stack[high++] = drawn >>> values[i] & 1;
-                } else if (kind == Tokens.NOT) {
-                    if (high > 0) {
-                        stack[high - 1] = stack[high - 1] == 0 ? 1 : 0;
-                    }
-                } else if (isUnit(kind)) {
-                    stack[high++] = given[kind];
+                    stack[high] = drawn >>> values[i] & 1;
+                    high++;
+                } else if (isGiven(kind)) {
+                    stack[high] = given[kind];
+                    high++;
+                } else if (kind == Tokens.NOT && high > 0) {
+                    stack[high - 1] = stack[high - 1] == 0 ? 1 : 0;
                 } else if (high > 1) {
                     high--;
                     stack[high - 1] = joined(kind, stack[high - 1], stack[high]);
@@ -677,8 +678,9 @@ public final class RailHouses {
             return stack[0];
         }
 
-        private static boolean isUnit(int kind) {
-            return kind < Tokens.WORDS && kind != Tokens.AND && kind != Tokens.OR;
+        static boolean isGiven(int kind) {
+            return kind == Tokens.LENGTH || kind == Tokens.WEIGHT
+                    || kind >= Tokens.MANY && kind <= Tokens.ROOM;
         }
 
         private static int joined(int kind, int one, int other) {
@@ -779,26 +781,26 @@ public final class RailHouses {
             place = next;
             if (next >= size) {
                 kind = END;
-            } else if (isLetter()) {
+            } else if (isLetter(text[next])) {
                 readWord();
-            } else if (isDigit()) {
+            } else if (isDigit(text[next])) {
                 readNumber();
             } else {
                 readSign();
             }
         }
 
-        private boolean isLetter() {
-            return next < size && text[next] >= 'a' && text[next] <= 'z';
+        private static boolean isLetter(int sign) {
+            return sign >= 'a' && sign <= 'z';
         }
 
-        private boolean isDigit() {
-            return next < size && text[next] >= '0' && text[next] <= '9';
+        private static boolean isDigit(int sign) {
+            return sign >= '0' && sign <= '9';
         }
 
         private void readWord() {
             name = 0;
-            while (isLetter()) {
+            while (next < size && isLetter(text[next])) {
                 if (next - place < MOST_LETTERS) {
                     name = name << 5 | text[next] - 'a' + 1;
                 }
@@ -819,13 +821,14 @@ public final class RailHouses {
 
         private void readNumber() {
             number = 0;
-            while (isDigit()) {
+            while (next < size && isDigit(text[next])) {
                 if (next - place < MOST_DIGITS) {
                     number = number * 10 + text[next] - '0';
                 }
                 next++;
             }
-            kind = next - place > MOST_DIGITS || isLetter() ? BAD : NUMBER;
+            boolean isLetterBehind = next < size && isLetter(text[next]);
+            kind = next - place > MOST_DIGITS || isLetterBehind ? BAD : NUMBER;
         }
 
         private void readSign() {
@@ -1159,7 +1162,7 @@ public final class RailHouses {
             } else if (tokens.word == Tokens.TAKES) {
                 tokens.advance();
                 law.addUnit(Tokens.TAKES, takeToldName(houseNames, town.houses));
-            } else if (isAskedWord(tokens.word)) {
+            } else if (Law.isGiven(tokens.word)) {
                 law.addUnit(tokens.word, 0);
                 tokens.advance();
             } else if (tokens.sign == '(' && depth < MOST_DEPTH) {
@@ -1170,11 +1173,6 @@ public final class RailHouses {
             } else {
                 refuse();
             }
-        }
-
-        private static boolean isAskedWord(int word) {
-            return word == Tokens.MANY || word == Tokens.WEIGHT || word == Tokens.LENGTH
-                    || word == Tokens.FROM || word == Tokens.TO || word == Tokens.ROOM;
         }
     }
 
@@ -1275,7 +1273,7 @@ public final class RailHouses {
             return rest | second << DIGIT * low | first << DIGIT * (low + high - middle);
         }
 
-        private static long ones(int digits) {
+        static long ones(int digits) {
             return (1L << DIGIT * digits) - 1;
         }
 
@@ -1808,7 +1806,7 @@ public final class RailHouses {
 
         int railsOf(int house, int n) {
             int bits = 0;
-            for (int rail = 0; rail < town.rails; rail++) {
+            for (int rail = 0; rail < MOST_RAILS; rail++) {
                 bits |= (seen[n * MOST_RAILS + rail] >>> house & 1) << rail;
             }
             return bits;

@@ -186,7 +186,7 @@ public final class PromiseTests {
             due("fault(0)", x.fault(0), 2);
         }
         String besides = TOWN + "beside a b worth 1;beside c b worth 1;";
-        for (int i = 0; i < 8; i++) {
+        for (int i = 0; i < 20; i++) {
             Checks.feed(x, besides);
             due("town(), three more besides", x.town(), 3);
         }

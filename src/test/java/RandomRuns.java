@@ -120,9 +120,8 @@ public final class RandomRuns {
             case 2: due("room", houses.room(a), model.room(a)); break;
             case 3: due("asked" + three, houses.asked(a, b, c), model.asked(a, b, c)); break;
             case 4: due("lawful" + three, houses.lawful(a, b, c), model.lawful(a, b, c)); break;
-            case 5: case 6: case 7: case 8:
-                due("pull" + three, houses.pull(a, b, c), model.pull(a, b, c));
-                break;
+            case 5: due("pull" + three, houses.pull(a, b, c), model.pull(a, b, c)); break;
+            case 6: case 7: case 8: pullLawfully(random.nextInt(4)); break;
             case 9:
                 int undone = random.nextInt(8) == 0 ? 297 + random.nextInt(6) : small(4);
                 due("undo " + undone, houses.undo(undone), model.undo(undone));
@@ -130,6 +129,34 @@ public final class RandomRuns {
             case 10: due("worth", houses.worth(), model.worth()); break;
             default: due("tell" + three, houses.tell(a, b, c), model.tell(a, b, c));
         }
+    }
+
+    /** Most pulls at random are not lawful: one that is, or it is told, or asked for. */
+    private void pullLawfully(int what) {
+        List<int[]> lawful = new ArrayList<>();
+        for (int from = 0; from < model.about(1); from++) {
+            for (int many = 1; many <= model.about(0); many++) {
+                for (int to = 0; to < model.about(1); to++) {
+                    if (model.lawful(from, many, to) == 1) {
+                        lawful.add(new int[] {from, many, to});
+                    }
+                }
+            }
+        }
+        if (lawful.isEmpty()) {
+            due("lawful", houses.lawful(0, 1, 1), model.lawful(0, 1, 1));
+            return;
+        }
+        int[] p = lawful.get(random.nextInt(lawful.size()));
+        switch (what) {
+            case 0: due("tell", houses.tell(p[0], p[1], p[2]), model.tell(p[0], p[1], p[2])); break;
+            case 1:
+                due("asked", houses.asked(p[0], p[1], p[2]), model.asked(p[0], p[1], p[2]));
+                due("lawful", houses.lawful(p[0], p[1], p[2]), 1);
+                break;
+            default: due("pull", houses.pull(p[0], p[1], p[2]), model.pull(p[0], p[1], p[2]));
+        }
+        due("room", houses.room(p[2]), model.room(p[2]));
     }
 
     private void callLarge(int what, int a, int b, int c, int house) {

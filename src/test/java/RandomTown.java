@@ -47,7 +47,7 @@ final class RandomTown {
         }
         for (int house = 0; house < houses; house++) {
             int rail = random.nextInt(8) == 0 ? random.nextInt(rails) : 0;
-            put("house", NAMES[house + random.nextInt(2) * 0], "length", "" + upTo(rail == 0 ? 3 : 1),
+            put("house", NAMES[house], "length", "" + upTo(rail == 0 ? 3 : 1),
                     "weight", "" + upTo(random.nextBoolean() ? 4 : 99), "on", NAMES[rail], ";");
         }
         besides();
@@ -85,6 +85,9 @@ final class RandomTown {
 
     private void law(int depth) {
         int what = random.nextInt(12);
+        if (depth == 0 && random.nextInt(3) == 0) {
+            put("many", "<", "" + (2 + random.nextInt(3)), "or");
+        }
         if (what == 0) {
             both(depth);
             put("or");
@@ -154,16 +157,36 @@ final class RandomTown {
     private void spoil() {
         for (int i = upTo(2); i > 0; i--) {
             int at = random.nextInt(text.length());
-            switch (random.nextInt(4)) {
+            switch (random.nextInt(8)) {
+                case 4: replaceWord(at, NAMES[random.nextInt(NAMES.length)]); break;
+                case 5: replaceNumber(at); break;
+                case 6: replaceNumber(random.nextInt(text.length() / 2 + 1)); break;
                 case 0: text.deleteCharAt(at); break;
                 case 1: text.insert(at, ODD[random.nextInt(ODD.length)]); break;
-                case 2:
-                    int from = text.lastIndexOf(" ", at) + 1;
-                    int to = text.indexOf(" ", at);
-                    text.replace(from, to < from ? text.length() : to, ODD[random.nextInt(ODD.length)]);
-                    break;
-                default: text.setLength(at + 1);
+                case 2: replaceWord(at, ODD[random.nextInt(ODD.length)]); break;
+                case 3: text.setLength(at + 1); break;
+                default: replaceWord(at, "" + random.nextInt(1100));
             }
         }
+    }
+
+    private void replaceWord(int at, String word) {
+        int from = text.lastIndexOf(" ", at) + 1;
+        int to = text.indexOf(" ", at);
+        text.replace(from, to < from ? text.length() : to, word);
+    }
+
+    /** The first number behind a place. */
+    private void replaceNumber(int at) {
+        int from = at;
+        while (from < text.length() && !Character.isDigit(text.charAt(from))) {
+            from++;
+        }
+        int to = from;
+        while (to < text.length() && Character.isDigit(text.charAt(to))) {
+            to++;
+        }
+        int[] odd = {0, 1, 9, 10, 99, 100, 999, 1000, 9999, 12345};
+        text.replace(from, to, "" + odd[random.nextInt(odd.length)]);
     }
 }
