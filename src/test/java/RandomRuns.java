@@ -86,7 +86,12 @@ public final class RandomRuns {
     }
 
     private int small(int most) {
-        return random.nextInt(40) == 0 ? random.nextInt(2000) - 1000 : random.nextInt(most + 3) - 1;
+        if (random.nextInt(40) > 0) {
+            return random.nextInt(most + 3) - 1;
+        }
+        int[] far = {Integer.MIN_VALUE, Integer.MIN_VALUE + 1, Integer.MAX_VALUE, -1000, 1000,
+            random.nextInt()};
+        return far[random.nextInt(far.length)];
     }
 
     private void compareRow() {
