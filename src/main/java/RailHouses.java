@@ -736,8 +736,8 @@ public final class RailHouses {
         static final int TAKES = 17;
         static final int WORDS = 18;
         /** The words above, in their order. */
-        private static final String SPELLED = "rail house beside neck draws law length weight on "
-                + "worth or and not many from to room takes ";
+        private static final String SPELLED =
+                "rail house beside neck draws law length weight on worth or and not many from to room takes ";
         private static final String SIGNS = ";()<>=+-*/";
         private static final int MOST_LETTERS = 8;
         private static final int MOST_DIGITS = 4;

@@ -24,7 +24,7 @@ public final class LanguageTests {
     private static final List<String> FORBIDDEN = List.of("\\b(throw|throws|try|catch|finally)\\b",
             "\\b(synchronized|assert|instanceof|protected|package|volatile|var)\\b", "->", "::",
             "\\bimport (?!java\\.util\\.(Arrays|ArrayList|List);)", "\\bwhile \\(true\\)", "for \\(;",
-            "\\w+Exact\\b", "\\b(MAX_VALUE|MIN_VALUE|Random|System\\.(?!arraycopy))");
+            "\\w+Exact\\b", "\"\\s*\\+|\\+\\s*\"", "\\b(MAX_VALUE|MIN_VALUE|Random|System\\.(?!arraycopy))");
 
     public static void main(String[] args) throws IOException {
         String source = Files.readString(Path.of("src/main/java/RailHouses.java"));
