@@ -42,6 +42,24 @@ final class Checks {
         due("on(" + rail + ") behind the row", x.on(rail, houses.length), -1);
     }
 
+    /** A text with a fault; its place is where the ^ stands, which is no part of the text. */
+    void dueFault(int kind, String marked) {
+        RailHouses x = new RailHouses();
+        feed(x, marked.replace("^", ""));
+        due("town() of " + marked, x.town(), -1);
+        due("fault(0) of " + marked, x.fault(0), kind);
+        due("fault(1) of " + marked, x.fault(1), marked.indexOf('^'));
+        due("about(7) of " + marked, x.about(7), 0);
+    }
+
+    void dueTown(int houses, String text) {
+        RailHouses x = new RailHouses();
+        feed(x, text);
+        due("town() of " + text, x.town(), houses);
+        due("fault(0) of " + text, x.fault(0), 0);
+        due("fault(1) of " + text, x.fault(1), -1);
+    }
+
     static void feed(RailHouses x, String text) {
         byte[] bytes = text.getBytes(StandardCharsets.ISO_8859_1);
         int before = x.about(7);

@@ -185,6 +185,7 @@ public final class PromiseTests {
             due("lawful as before", x.lawful(0, 3, 1), 1);
             due("fault(0)", x.fault(0), 2);
         }
+        x = new RailHouses();
         String besides = TOWN + "beside a b worth 1;beside c b worth 1;";
         for (int i = 0; i < 20; i++) {
             Checks.feed(x, besides);

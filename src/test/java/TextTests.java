@@ -18,24 +18,12 @@ public final class TextTests {
         CHECKS.close();
     }
 
-    /** The place is where the ^ stands; it is taken out of the text. */
     private static void fault(int kind, String marked) {
-        int place = marked.indexOf('^');
-        RailHouses x = new RailHouses();
-        String text = marked.replace("^", "");
-        Checks.feed(x, text);
-        CHECKS.due("town() of " + marked, x.town(), -1);
-        CHECKS.due("fault(0) of " + marked, x.fault(0), kind);
-        CHECKS.due("fault(1) of " + marked, x.fault(1), place);
-        CHECKS.due("about(7) of " + marked, x.about(7), 0);
+        CHECKS.dueFault(kind, marked);
     }
 
     private static void town(int houses, String text) {
-        RailHouses x = new RailHouses();
-        Checks.feed(x, text);
-        CHECKS.due("town() of " + text, x.town(), houses);
-        CHECKS.due("fault(0) of " + text, x.fault(0), 0);
-        CHECKS.due("fault(1) of " + text, x.fault(1), -1);
+        CHECKS.dueTown(houses, text);
     }
 
     private static void tokens() {
