@@ -288,6 +288,9 @@ public final class BoundaryTests {
             due("back(" + box + ")", x.back(box), -1);
         }
         due("later(0)", x.later(0), 5);
+        due("goal(1): the first of a new one", x.goal(1), 1);
+        due("fewest()", x.fewest(), 3);
+        CHECKS.dueRow(x, 11, 21, 110);
         String tight = "rail l length 2;rail s length 2;house a length 2 weight 1 on l;"
                 + "house b length 1 weight 1 on s;house c length 1 weight 1 on s;";
         x = new RailHouses();
@@ -471,7 +474,8 @@ public final class BoundaryTests {
     }
 
     private static void pull() {
-        part("11 A PULL: the weight drawn; NONE, doing nothing, if it is not LAWFUL, or there were 300");
+        part("11 A PULL: the weight drawn; NONE, doing nothing, if it is not LAWFUL,"
+                + " or there were 300");
         for (int[] p : new int[][] {{0, 1, 0}, {0, 2, 1}, {0, 0, 1}, {-1, 1, 0}, {0, 1, 3},
             {2, -1, 0}, {MIN, MIN, MIN}, {MAX, MAX, MAX}, {3, 1, 0}, {1, 2, 0}}) {
             refused("pull(" + p[0] + ", " + p[1] + ", " + p[2] + ")",

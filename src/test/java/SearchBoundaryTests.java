@@ -105,10 +105,11 @@ public final class SearchBoundaryTests {
     private static void fewestNone() {
         part("19 NONE if there are none; -2 if SPENT. The row lies there then"
                 + " (behind NONE, -2: none; so below)");
-        String[] none = {"rail l length 9;house a length 1 weight 2 on l;house b length 1 weight 2 on l;",
+        String[] none = {BoundaryTests.many(2, 1),
             BoundaryTests.many(2, 2) + "law takes b;", BoundaryTests.many(2, 3) + "draws 1;",
             BoundaryTests.many(2, 3) + "law 0;",
-            "rail l length 3;rail s length 1;house a length 2 weight 2 on l;house b length 1 weight 2 on l;"};
+            "rail l length 3;rail s length 1;house a length 2 weight 2 on l;"
+                + "house b length 1 weight 2 on l;"};
         for (String text : none) {
             RailHouses x = Checks.told(text);
             x.pull(0, 1, 1);
@@ -289,7 +290,8 @@ public final class SearchBoundaryTests {
         due("spare(1, 0): the LINE", x.spare(1, 0), 0);
         due("spare(1, 1): the LINE", x.spare(1, 1), 1);
         x = aim("rail l length 9;rail s length 1;rail t length 1;rail u length 1;"
-                + "house a length 1 weight 1 on l;house b length 1 weight 1 on l;law from + to = 3;", 1);
+                + "house a length 1 weight 1 on l;house b length 1 weight 1 on l;"
+                + "law from + to = 3;", 1);
         due("spare(1, 0): the last RAIL", x.spare(1, 0), 3);
         due("spare(1, 1)", x.spare(1, 1), 2);
         x = aim(BoundaryTests.many(3, 3), 0);
@@ -305,7 +307,8 @@ public final class SearchBoundaryTests {
     private static void spareBounds() {
         part("23 NONE if there are none by any, one can't be, or SPENT. (What lies there stays.)");
         RailHouses x = aim("rail l length 2;rail s length 99;house a length 1 weight 1 on l;"
-                + "house b length 1 weight 1 on l;law room > 197 or to = 0 or takes b and many = 1;", 1);
+                + "house b length 1 weight 1 on l;"
+                + "law room > 197 or to = 0 or takes b and many = 1;", 1);
         due("free(0)", x.free(0), 1);
         due("spare(98, 0)", x.spare(98, 0), -1);
         due("spare(99, 0)", x.spare(99, 0), 1);

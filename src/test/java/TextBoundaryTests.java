@@ -150,6 +150,8 @@ public final class TextBoundaryTests {
         fault(2, "law 1 < ^= 2;");
         fault(2, "law 1 ^andor 1;");
         fault(2, "neck 1;^; ");
+        fault(2, "rail l^2 length 9;");
+        fault(2, "rail ^2 length 9;");
     }
 
     private static void standingWords() {
@@ -292,10 +294,10 @@ public final class TextBoundaryTests {
         fault(5, "house a length 1 weight 1 on ^a;" + rails(1));
         fault(5, rails(4) + "house a length 1 weight 1 on ^e;rail e length 9;");
         for (int i = 0; i < 5; i++) {
-            RailHouses x = Checks.told(rails(5) + "house z length 1 weight 1 on " + (char) ('a' + i) + ";");
-            CHECKS.due("where(0, 0)", x.where(0, 0), i);
-            fault(5, rails(5) + "house z length 1 weight 1 on " + (char) ('a' + i) + ";beside ^"
-                    + (char) ('a' + i) + " z worth 1;");
+            char rail = (char) ('a' + i);
+            String text = rails(5) + "house z length 1 weight 1 on " + rail + ";";
+            CHECKS.due("where(0, 0)", Checks.told(text).where(0, 0), i);
+            fault(5, text + "beside ^" + rail + " z worth 1;");
         }
         fault(3, "rail l length 9;rail ^l length 0;");
         fault(3, R + "house a length 1 weight 1 on l;house ^a length 0 weight 1 on l;");
@@ -381,6 +383,9 @@ public final class TextBoundaryTests {
             fault(2, ABC + "law " + at40 + " + ^takes");
             fault(2, ABC + "law " + at40 + " + ^(((((((((1;");
             fault(1, ABC + "law " + at40 + " + ^$;");
+            fault(2, ABC + "law " + at40 + " + ^;");
+            fault(2, ABC + "law " + at40 + " + ^");
+            fault(2, ABC + "law " + at40 + " + ^rail s length 9;");
             fault(2, ABC + "law " + at40 + " ^1;");
         }
         String at39 = "1" + "+1".repeat(38);
@@ -389,11 +394,12 @@ public final class TextBoundaryTests {
         fault(2, "law " + at39 + "+(^(1));");
         fault(2, "law " + at39 + "+(not ^1);");
         fault(2, "law (" + "1" + "+1".repeat(38) + "+^1);");
+        fault(2, "law (" + "1" + "+1".repeat(38) + "+^);");
         town(0, "law (" + "1" + "+1".repeat(38) + ");");
         CHECKS.due("about(9) of 1", Checks.told("law 1;").about(9), 1);
         CHECKS.due("about(9): not is none", Checks.told("law not not 1;").about(9), 1);
         CHECKS.due("about(9): takes a is one", Checks.told(ABC + "law takes a;").about(9), 1);
-        CHECKS.due("about(9): ( e ) is one, and what is in it", Checks.told("law (1 < (2));").about(9), 4);
+        CHECKS.due("about(9): ( e ), too", Checks.told("law (1 < (2));").about(9), 4);
     }
 
     private static void depths() {
@@ -466,8 +472,8 @@ public final class TextBoundaryTests {
 
     private static void ends() {
         part("2 one that can't stand there (the end: the text's length)");
-        String[] open = {"rail", "rail l", "rail l length", "rail l length 9", R + "house", R + "house a",
-            R + "house a length", R + "house a length 1", R + "house a length 1 weight",
+        String[] open = {"rail", "rail l", "rail l length", "rail l length 9", R + "house",
+            R + "house a", R + "house a length", R + "house a length 1", R + "house a length 1 weight",
             R + "house a length 1 weight 1", R + "house a length 1 weight 1 on",
             R + "house a length 1 weight 1 on l", ABC + "beside", ABC + "beside a", ABC + "beside a b",
             ABC + "beside a b worth", ABC + "beside a b worth -", ABC + "beside a b worth 1", "neck",
@@ -504,6 +510,12 @@ public final class TextBoundaryTests {
         value(0, least + "-1<0");
         value(1, "0>" + least);
         value(1, "not " + least + "<" + least);
+        part("40 units, each within 7 nots");
+        String odd = "not ".repeat(7);
+        value(1, odd + "0" + (" and " + odd + "0").repeat(39));
+        value(0, odd + "0" + (" and " + odd + "0").repeat(38) + " and " + odd + "1");
+        value(0, odd + "1" + (" or " + odd + "1").repeat(39));
+        value(1, odd + "1" + (" or " + odd + "1").repeat(38) + " or " + odd + "0");
         part("/ cut, by 0: 0");
         value(Integer.MIN_VALUE, least + "/(0-1)");
         value(0, "1/0");
@@ -538,7 +550,8 @@ public final class TextBoundaryTests {
         part("one byte left out, put in, or changed");
         String[] texts = {"rail l length 9;rail s length 5;house a length 2 weight 4 on l;"
                 + "house b length 2 weight 3 on s;beside a b worth -99;neck 9;draws 99;",
-            R + "house a length 1 weight 1 on l;law not (takes a + 2) * 3 < 4 / many and room = 0 or 1;"};
+            R + "house a length 1 weight 1 on l;"
+                + "law not (takes a + 2) * 3 < 4 / many and room = 0 or 1;"};
         String others = " \n;()<>=+-*/09az$A";
         for (String text : texts) {
             for (int at = 0; at < text.length(); at++) {
