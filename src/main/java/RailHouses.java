@@ -1774,21 +1774,29 @@ public final class RailHouses {
         }
 
         private void goOn(int depth) {
+            if (!agrees(stands[depth], depth)) {
+                return;
+            }
+            if (depth < most) {
+                pullOn(depth);
+            } else {
+                countRow(stands[depth]);
+            }
+        }
+
+        private void pullOn(int depth) {
             Stand stand = stands[depth];
-            if (!agrees(stand, depth)) {
-                return;
-            }
-            if (depth >= most) {
-                rows[most]++;
-                for (int rail = 0; rail < town.rails; rail++) {
-                    seen[most * MOST_RAILS + rail] |= stand.sets[rail];
-                }
-                return;
-            }
             stand.listPulls(town, permits);
             for (int i = 0; i < stand.nexts; i++) {
                 stands[depth + 1].look(town, stand.nextWords[i]);
                 goOn(depth + 1);
+            }
+        }
+
+        private void countRow(Stand end) {
+            rows[most]++;
+            for (int rail = 0; rail < town.rails; rail++) {
+                seen[most * MOST_RAILS + rail] |= end.sets[rail];
             }
         }
 
