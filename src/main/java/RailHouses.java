@@ -350,9 +350,10 @@ public final class RailHouses {
 
     /** What a search needs is large: it is made when one is asked for, and used again. */
     private void readySearch() {
-        if (search == null || search.states < town.states()) {
-            search = new Search(town);
+        if (search == null) {
+            search = new Search();
         }
+        search.widen(town.states());
     }
 
     private int lay(int end) {
@@ -620,12 +621,14 @@ public final class RailHouses {
     private static final class Law {
         static final int A_NUMBER = '0';
         private static final int MOST_STEPS = 512;
+        /** No more wait there than there are units. */
+        private static final int MOST_STACK = 64;
 
         int units;
         private int size;
         private final int[] kinds = new int[MOST_STEPS];
         private final int[] values = new int[MOST_STEPS];
-        private final int[] stack = new int[MOST_STEPS];
+        private final int[] stack = new int[MOST_STACK];
         private final int[] given = new int[Tokens.WORDS];
 
         void clear() {
@@ -657,7 +660,7 @@ public final class RailHouses {
             given[Tokens.WEIGHT] = weight;
             given[Tokens.LENGTH] = length;
             int high = 0;
-            for (int i = 0; i < size && high < MOST_STEPS; i++) {
+            for (int i = 0; i < size && high < MOST_STACK; i++) {
                 int kind = kinds[i];
                 if (kind == A_NUMBER) {
                     stack[high] = values[i];
@@ -1115,11 +1118,7 @@ public final class RailHouses {
 
         private void readOne(int depth) {
             if (tokens.word == Tokens.NOT) {
-                advanceUnless(depth >= MOST_DEPTH);
-                if (fault == 0) {
-                    readOne(depth + 1);
-                    law.addStep(Tokens.NOT, 0);
-                }
+                readNot(depth);
                 return;
             }
             readSum(depth);
@@ -1128,6 +1127,14 @@ public final class RailHouses {
                 tokens.advance();
                 readSum(depth);
                 law.addStep(sign, 0);
+            }
+        }
+
+        private void readNot(int depth) {
+            advanceUnless(depth >= MOST_DEPTH);
+            if (fault == 0) {
+                readOne(depth + 1);
+                law.addStep(Tokens.NOT, 0);
             }
         }
 
@@ -1191,10 +1198,15 @@ public final class RailHouses {
         private final int[] ends = new int[MOST_RAILS];
         /** By rail: the set of houses on it, a bit for each. */
         final int[] sets = new int[MOST_RAILS];
+        private final int[] unions = new int[MOST_RAILS];
         int nexts;
-        final long[] nextWords = new long[MOST_PULLS];
         final int[] nextCodes = new int[MOST_PULLS];
-        final int[] nextWeights = new int[MOST_PULLS];
+        final int[] nextDrawns = new int[MOST_PULLS];
+        /** By pull: the set of the houses that the drawn ones go past. */
+        final int[] nextPasseds = new int[MOST_PULLS];
+        /** By pull: over how many rails' ends they go on, below 0 if they go back. */
+        final int[] nextSteps = new int[MOST_PULLS];
+        final int[] nextNumbers = new int[MOST_PULLS];
 
         static int digitOf(long word, int i) {
             return (int) (word >>> DIGIT * i) & 15;
@@ -1278,8 +1290,9 @@ public final class RailHouses {
         }
 
         /** All lawful pulls from here, in their order. */
-        void listPulls(Town town, Permits permits) {
+        void listPulls(Permits permits) {
             nexts = 0;
+            unite();
             for (int from = 0; from < rails; from++) {
                 int drawn = 0;
                 int many = 0;
@@ -1289,14 +1302,28 @@ public final class RailHouses {
                     for (int to = 0; to < rails; to++) {
                         if (to != from && nexts < MOST_PULLS
                                 && permits.allows(from, drawn, to, sets[to])) {
-                            nextWords[nexts] = after(from, many, to);
                             nextCodes[nexts] = Pulls.code(from, many, to);
-                            nextWeights[nexts] = town.weights[drawn];
+                            nextDrawns[nexts] = drawn;
+                            nextPasseds[nexts] = (unions[from] ^ unions[to]) & ~drawn;
+                            nextSteps[nexts] = to - from;
                             nexts++;
                         }
                     }
                 }
             }
+        }
+
+        private void unite() {
+            int union = 0;
+            for (int rail = 0; rail < rails; rail++) {
+                union |= sets[rail];
+                unions[rail] = union;
+            }
+        }
+
+        long nextWord(int i) {
+            int code = nextCodes[i];
+            return after(Pulls.fromOf(code), Pulls.manyOf(code), Pulls.toOf(code));
         }
     }
 
@@ -1304,12 +1331,14 @@ public final class RailHouses {
     private static final class Permits {
         private static final int YES = 1;
         private static final int NO = 2;
+        /** Sixteen places, of two bits each, are in one number. */
+        private static final int IN_ONE = 4;
 
-        private final byte[] known;
+        private final int[] known;
         private Town town;
 
         Permits(int places) {
-            known = new byte[Math.max(places, 0)];
+            known = new int[Math.max(places >> IN_ONE, 0)];
         }
 
         static int placesFor(int houses, int rails) {
@@ -1318,141 +1347,217 @@ public final class RailHouses {
 
         void begin(Town asked) {
             town = asked;
-            int places = Math.min(placesFor(asked.houses, asked.rails), known.length);
-            Arrays.fill(known, 0, places, (byte) 0);
+            int numbers = (placesFor(asked.houses, asked.rails) >> IN_ONE) + 1;
+            Arrays.fill(known, 0, Math.min(numbers, known.length), 0);
         }
 
         boolean allows(int from, int drawn, int to, int standing) {
             int houses = town.houses;
             int place = ((from * town.rails + to) << houses | drawn) << houses | standing;
-            if (place < 0 || place >= known.length) {
+            int at = place >> IN_ONE;
+            if (at < 0 || at >= known.length) {
                 return town.allows(from, drawn, to, standing);
             }
-            if (known[place] == 0) {
-                known[place] = (byte) (town.allows(from, drawn, to, standing) ? YES : NO);
+            int shift = 2 * (place & (1 << IN_ONE) - 1);
+            int permit = known[at] >>> shift & 3;
+            if (permit == 0) {
+                permit = town.allows(from, drawn, to, standing) ? YES : NO;
+                known[at] |= permit << shift;
             }
-            return known[place] == YES;
+            return permit == YES;
         }
     }
 
-    /** The states that a search has come to, numbered as it came to them, and by which pull. */
-    private static final class Found {
-        private static final long SCATTER = 0x9E3779B97F4A7C15L;
-        private static final int MOST_TABLE_BITS = 20;
+    /**
+     * Numbers from 0 on for all ways in which a town's houses can stand. A house's place is how
+     * many BETWEENs and houses of lower number stand ahead of it; the number is all their places,
+     * each times the house's unit: a house has as many places as there are rails and lower houses.
+     */
+    private static final class Numbers {
+        private static final int SETS = 1 << MOST_SEARCHED_HOUSES;
 
-        int size;
-        final long[] words;
-        final int[] parents;
-        final int[] codes;
-        final int[] depths;
-        /** A state's number plus 1, where its word scattered points to or the next free behind. */
-        private final int[] table;
-        private int tableBits;
-        private int slot;
+        private int houses;
+        private int rails;
+        private final int[] units = new int[MOST_SEARCHED_HOUSES];
+        /** By a set of houses: their units together. */
+        private final int[] sums = new int[SETS];
+        /** By a set and one that it goes past, behind it then: by how much the number is more. */
+        private final int[] turns = new int[SETS * SETS];
 
-        Found(int states) {
-            words = new long[states];
-            parents = new int[states];
-            codes = new int[states];
-            depths = new int[states];
-            table = new int[1 << bitsFor(states)];
-        }
-
-        /** So that the table is at most half full. */
-        private static int bitsFor(int states) {
-            int bits = 1;
-            while (bits < MOST_TABLE_BITS && 1 << bits < 2 * states) {
-                bits++;
+        void begin(Town town) {
+            if (houses == town.houses && rails == town.rails) {
+                return;
             }
-            return bits;
+            houses = Math.min(town.houses, MOST_SEARCHED_HOUSES);
+            rails = town.rails;
+            int unit = 1;
+            for (int house = 0; house < houses; house++) {
+                units[house] = unit;
+                unit *= rails + house;
+                for (int rest = 0; rest < 1 << house; rest++) {
+                    sums[rest | 1 << house] = sums[rest] + units[house];
+                }
+            }
+            for (int house = 0; house < houses; house++) {
+                for (int rest = 0; rest < 1 << house; rest++) {
+                    addTurns(rest, house);
+                }
+            }
         }
 
-        void begin(int states) {
-            size = 0;
-            tableBits = bitsFor(Math.min(states, words.length));
-            Arrays.fill(table, 0, Math.min(1 << tableBits, table.length), 0);
+        private void addTurns(int rest, int house) {
+            int row = (rest | 1 << house) * SETS;
+            for (int passed = 0; passed < 1 << houses; passed++) {
+                int lower = passed & (1 << house) - 1;
+                int higher = passed >>> house + 1 << house + 1;
+                turns[row + passed] = turns[rest * SETS + passed]
+                        + units[house] * Integer.bitCount(lower) - sums[higher];
+            }
         }
 
-        /** The number of a state; NONE if it is new, and then add() may put it. */
         int numberOf(long word) {
-            int last = (1 << tableBits) - 1;
-            slot = (int) (word * SCATTER >>> 64 - tableBits);
-            for (int tries = 0; tries <= last; tries++) {
-                int number = table[slot] - 1;
-                if (number < 0) {
-                    return NONE;
+            int number = 0;
+            int betweens = 0;
+            int ahead = 0;
+            for (int i = 0; i < houses + rails - 1; i++) {
+                int digit = Stand.digitOf(word, i);
+                if (digit < houses) {
+                    int lower = ahead & (1 << digit) - 1;
+                    number += units[digit] * (betweens + Integer.bitCount(lower));
+                    ahead |= 1 << digit;
+                } else {
+                    betweens++;
                 }
-                if (words[number] == word) {
-                    return number;
-                }
-                slot = slot + 1 & last;
             }
-            slot = NONE;
-            return NONE;
-        }
-
-        int add(long word, int parent, int code) {
-            if (size >= words.length || slot < 0 || slot >= table.length) {
-                return NONE;
-            }
-            int number = size;
-            size++;
-            words[number] = word;
-            table[slot] = number + 1;
-            lead(number, parent, code);
             return number;
         }
 
-        void lead(int number, int parent, int code) {
-            parents[number] = parent;
-            codes[number] = code;
-            depths[number] = parent == NONE ? 0 : depths[parent] + 1;
+        long wordOf(int number) {
+            long word = 0;
+            for (int i = 0; i < rails - 1; i++) {
+                word |= (long) Stand.BETWEEN << Stand.DIGIT * i;
+            }
+            int rest = number;
+            for (int house = 0; house < houses; house++) {
+                int places = Math.max(rails + house, 1);
+                int shift = Stand.DIGIT * (rest % places);
+                long ahead = word & (1L << shift) - 1;
+                word = (word ^ ahead) << Stand.DIGIT | (long) house << shift | ahead;
+                rest /= places;
+            }
+            return word;
         }
 
-        /** Of two states to which rows of as many pulls lead: whether the one's row is ahead. */
-        boolean isAhead(int one, int other) {
+        /** Numbers what the listed pulls lead to. */
+        void follow(int number, Stand stand) {
+            for (int i = 0; i < stand.nexts; i++) {
+                int drawn = stand.nextDrawns[i];
+                int steps = stand.nextSteps[i];
+                int turned = turns[drawn * SETS + stand.nextPasseds[i]];
+                stand.nextNumbers[i] = number + steps * sums[drawn]
+                        + (steps > 0 ? turned : -turned);
+            }
+        }
+    }
+
+    /**
+     * The states that a search has come to, by their numbers. Those that wait to be gone on from
+     * stand in lists by their weight, the earliest first; no pull weighs as much as there are lists,
+     * so all in one list are of one weight.
+     */
+    private static final class Found {
+        static final int NOBODY = 65535;
+        private static final int LISTS = 1024;
+        private static final int CODE_BITS = 9;
+        private static final int NUMBER_BITS = 16;
+
+        final int states;
+        int waiting;
+        /** By state: behind how many pulls, from which state and by which pull; NONE if it is new. */
+        private final long[] leads;
+        private final int[] weights;
+        /** By state: which is behind it in its list, and which is ahead. */
+        private final int[] links;
+        private final int[] heads = new int[LISTS];
+        private final int[] tails = new int[LISTS];
+
+        Found(int most) {
+            states = Math.max(most, 0);
+            leads = new long[states];
+            weights = new int[states];
+            links = new int[states];
+        }
+
+        void begin(int many) {
+            waiting = 0;
+            Arrays.fill(leads, 0, Math.min(many, states), NONE);
+            Arrays.fill(heads, NOBODY);
+            Arrays.fill(tails, NOBODY);
+        }
+
+        boolean isNew(int number) {
+            return number >= 0 && number < states && leads[number] == NONE;
+        }
+
+        /** The first state leads to itself. */
+        void lead(int number, int parent, int code) {
+            long pulls = number == parent ? 0 : pullsTo(parent) + 1;
+            leads[number] = (pulls << NUMBER_BITS | parent) << CODE_BITS | code;
+        }
+
+        int pullsTo(int number) {
+            return (int) (leads[number] >>> NUMBER_BITS + CODE_BITS);
+        }
+
+        private int parentOf(int number) {
+            return (int) (leads[number] >>> CODE_BITS) & NOBODY;
+        }
+
+        private int codeOf(int number) {
+            return (int) leads[number] & (1 << CODE_BITS) - 1;
+        }
+
+        int weightTo(int number) {
+            return weights[number];
+        }
+
+        /** Whether the one's row has fewer pulls or, of as many, is the first. */
+        private boolean isAhead(int one, int other) {
+            int pulls = pullsTo(one);
+            if (pulls != pullsTo(other)) {
+                return pulls < pullsTo(other);
+            }
             boolean isAhead = false;
-            for (int depth = depths[one]; depth > 0 && one != other; depth--) {
-                if (codes[one] != codes[other]) {
-                    isAhead = codes[one] < codes[other];
+            for (int i = pulls; i > 0 && one != other; i--) {
+                if (codeOf(one) != codeOf(other)) {
+                    isAhead = codeOf(one) < codeOf(other);
                 }
-                one = parents[one];
-                other = parents[other];
+                one = parentOf(one);
+                other = parentOf(other);
             }
             return isAhead;
         }
 
+        /** Whether a row by way of another state is better than the one so far. */
+        boolean isBetter(int number, int by, int weight) {
+            if (weight != weights[number]) {
+                return weight < weights[number];
+            }
+            return isAhead(by, parentOf(number));
+        }
+
+        int better(int one, int other) {
+            return other == NONE || isAhead(one, other) ? one : other;
+        }
+
         void copyRow(int number, Pulls row) {
             row.clear();
-            row.widen(depths[number]);
-            row.size = depths[number];
+            row.widen(pullsTo(number));
+            row.size = pullsTo(number);
             for (int i = row.size - 1; i >= 0; i--) {
-                row.codes[i] = codes[number];
-                number = parents[number];
+                row.codes[i] = codeOf(number);
+                number = parentOf(number);
             }
-        }
-    }
-
-    /** States that wait to be gone on from, in lists by their weight; no pull weighs as much as
-     * there are lists, so all in one list are of one weight. */
-    private static final class Waiting {
-        private static final int LISTS = 1024;
-
-        int size;
-        final int[] weights;
-        private final int[] nexts;
-        private final int[] befores;
-        private final int[] heads = new int[LISTS];
-
-        Waiting(int states) {
-            weights = new int[states];
-            nexts = new int[states];
-            befores = new int[states];
-        }
-
-        void begin() {
-            size = 0;
-            Arrays.fill(heads, NONE);
         }
 
         int headOf(int weight) {
@@ -1460,33 +1565,42 @@ public final class RailHouses {
         }
 
         int behind(int number) {
-            return nexts[number];
+            return links[number] >>> NUMBER_BITS;
+        }
+
+        private int ahead(int number) {
+            return links[number] & NOBODY;
         }
 
         void put(int number, int weight) {
             int list = weight & LISTS - 1;
-            weights[number] = weight;
-            befores[number] = NONE;
-            nexts[number] = heads[list];
-            if (heads[list] != NONE) {
-                befores[heads[list]] = number;
+            int last = tails[list];
+            if (last == NOBODY) {
+                heads[list] = number;
+            } else {
+                links[last] = number << NUMBER_BITS | ahead(last);
             }
-            heads[list] = number;
-            size++;
+            tails[list] = number;
+            links[number] = NOBODY << NUMBER_BITS | last;
+            weights[number] = weight;
+            waiting++;
         }
 
         void drop(int number) {
-            int before = befores[number];
-            int behind = nexts[number];
-            if (before == NONE) {
-                heads[weights[number] & LISTS - 1] = behind;
+            int list = weights[number] & LISTS - 1;
+            int before = ahead(number);
+            int next = behind(number);
+            if (before == NOBODY) {
+                heads[list] = next;
             } else {
-                nexts[before] = behind;
+                links[before] = next << NUMBER_BITS | ahead(before);
             }
-            if (behind != NONE) {
-                befores[behind] = before;
+            if (next == NOBODY) {
+                tails[list] = before;
+            } else {
+                links[next] = behind(next) << NUMBER_BITS | before;
             }
-            size--;
+            waiting--;
         }
     }
 
@@ -1498,11 +1612,11 @@ public final class RailHouses {
         /** No row of pulls weighs more: 60,480 states, a pull's weight 594 at most. */
         private static final int MOST_WEIGHT = 36000000;
 
-        final int states;
         int bestWorth;
-        private final Found found;
-        private final Waiting waiting;
-        private final Permits permits;
+        private Found found = new Found(0);
+        private final Numbers numbers = new Numbers();
+        private final Permits permits =
+                new Permits(Permits.placesFor(MOST_SEARCHED_HOUSES, MOST_SEARCHED_RAILS));
         private final Stand stand = new Stand();
         private Town town;
         private int sought;
@@ -1511,11 +1625,10 @@ public final class RailHouses {
         private int house;
         private int best;
 
-        Search(Town largest) {
-            states = largest.states();
-            found = new Found(states);
-            waiting = new Waiting(states);
-            permits = new Permits(Permits.placesFor(largest.houses, largest.rails));
+        void widen(int states) {
+            if (found.states < states) {
+                found = new Found(states);
+            }
         }
 
         void seekRow(long houses, int many) {
@@ -1534,11 +1647,11 @@ public final class RailHouses {
         }
 
         int pullsTo(int end) {
-            return found.depths[end];
+            return found.pullsTo(end);
         }
 
         int weightTo(int end) {
-            return waiting.weights[end];
+            return found.weightTo(end);
         }
 
         void copyRow(int end, Pulls into) {
@@ -1549,10 +1662,16 @@ public final class RailHouses {
             town = searched;
             best = NONE;
             bestWorth = 0;
-            found.begin(town.states());
+            numbers.begin(town);
             permits.begin(town);
-            found.numberOf(from);
-            return found.add(from, NONE, 0);
+            found.begin(town.states());
+            int start = numbers.numberOf(from);
+            if (!found.isNew(start)) {
+                return NONE;
+            }
+            found.lead(start, start, 0);
+            found.put(start, 0);
+            return start;
         }
 
         /**
@@ -1560,26 +1679,31 @@ public final class RailHouses {
          * fewest pulls and of like rows the first one. For WORTH: the best state.
          */
         int spread(Town searched, long from, int mostPulls) {
-            int start = begin(searched, from);
-            if (start == NONE || isMet(start)) {
-                return start;
+            int at = begin(searched, from);
+            if (at == NONE || isMet(at, from)) {
+                return at;
             }
-            for (int at = 0; at < found.size && found.depths[at] < mostPulls; at++) {
+            for (int i = 0; i < found.states && at != Found.NOBODY
+                    && found.pullsTo(at) < mostPulls; i++) {
                 int met = goOn(at);
                 if (met != NONE) {
                     return met;
                 }
+                at = found.behind(at);
             }
             return best;
         }
 
         private int goOn(int at) {
-            stand.look(town, found.words[at]);
-            stand.listPulls(town, permits);
+            stand.look(town, numbers.wordOf(at));
+            stand.listPulls(permits);
+            numbers.follow(at, stand);
             for (int i = 0; i < stand.nexts; i++) {
-                if (found.numberOf(stand.nextWords[i]) == NONE) {
-                    int number = found.add(stand.nextWords[i], at, stand.nextCodes[i]);
-                    if (number != NONE && isMet(number)) {
+                int number = stand.nextNumbers[i];
+                if (found.isNew(number)) {
+                    found.lead(number, at, stand.nextCodes[i]);
+                    found.put(number, 0);
+                    if (isMet(number, stand.nextWord(i))) {
                         return number;
                     }
                 }
@@ -1587,8 +1711,7 @@ public final class RailHouses {
             return NONE;
         }
 
-        private boolean isMet(int number) {
-            long word = found.words[number];
+        private boolean isMet(int number, long word) {
             switch (sought) {
                 case ROW:
                     return (word & rowDigits) == row;
@@ -1623,20 +1746,17 @@ public final class RailHouses {
 
         /** Goes on from the lightest states, each with its best row, to the best that is met. */
         int weigh(Town searched, long from) {
-            int start = begin(searched, from);
-            waiting.begin();
-            if (start == NONE) {
+            if (begin(searched, from) == NONE) {
                 return NONE;
             }
-            waiting.put(start, 0);
-            for (int weight = 0; weight <= MOST_WEIGHT && waiting.size > 0; weight++) {
+            for (int weight = 0; weight <= MOST_WEIGHT && found.waiting > 0; weight++) {
                 int met = bestMet(weight);
                 if (met != NONE) {
                     return met;
                 }
-                for (int i = 0; i < states && waiting.headOf(weight) != NONE; i++) {
-                    int at = waiting.headOf(weight);
-                    waiting.drop(at);
+                for (int i = 0; i < found.states && found.headOf(weight) != Found.NOBODY; i++) {
+                    int at = found.headOf(weight);
+                    found.drop(at);
                     weighOn(at);
                 }
             }
@@ -1645,48 +1765,33 @@ public final class RailHouses {
 
         private int bestMet(int weight) {
             int met = NONE;
-            int number = waiting.headOf(weight);
-            for (int i = 0; i < states && number != NONE; i++) {
-                if (isMet(number) && (met == NONE || leadsAhead(number, met))) {
-                    met = number;
+            int number = found.headOf(weight);
+            for (int i = 0; i < found.states && number != Found.NOBODY; i++) {
+                if (isMet(number, numbers.wordOf(number))) {
+                    met = found.better(number, met);
                 }
-                number = waiting.behind(number);
+                number = found.behind(number);
             }
             return met;
         }
 
-        private boolean leadsAhead(int one, int other) {
-            if (found.depths[one] != found.depths[other]) {
-                return found.depths[one] < found.depths[other];
-            }
-            return found.isAhead(one, other);
-        }
-
         private void weighOn(int at) {
-            stand.look(town, found.words[at]);
-            stand.listPulls(town, permits);
+            stand.look(town, numbers.wordOf(at));
+            stand.listPulls(permits);
+            numbers.follow(at, stand);
+            int ahead = found.weightTo(at);
             for (int i = 0; i < stand.nexts; i++) {
-                int weight = waiting.weights[at] + stand.nextWeights[i];
-                int number = found.numberOf(stand.nextWords[i]);
-                if (number == NONE) {
-                    number = found.add(stand.nextWords[i], at, stand.nextCodes[i]);
-                    if (number != NONE) {
-                        waiting.put(number, weight);
-                    }
-                } else if (isBetter(number, at, weight)) {
+                int weight = ahead + town.weights[stand.nextDrawns[i]];
+                int number = stand.nextNumbers[i];
+                if (found.isNew(number)) {
                     found.lead(number, at, stand.nextCodes[i]);
-                    waiting.drop(number);
-                    waiting.put(number, weight);
+                    found.put(number, weight);
+                } else if (found.isBetter(number, at, weight)) {
+                    found.lead(number, at, stand.nextCodes[i]);
+                    found.drop(number);
+                    found.put(number, weight);
                 }
             }
-        }
-
-        /** Whether the row by way of another state is better than the one so far. */
-        private boolean isBetter(int number, int by, int weight) {
-            if (weight != waiting.weights[number]) {
-                return weight < waiting.weights[number];
-            }
-            return leadsAhead(by, found.parents[number]);
         }
     }
 
@@ -1786,9 +1891,9 @@ public final class RailHouses {
 
         private void pullOn(int depth) {
             Stand stand = stands[depth];
-            stand.listPulls(town, permits);
+            stand.listPulls(permits);
             for (int i = 0; i < stand.nexts; i++) {
-                stands[depth + 1].look(town, stand.nextWords[i]);
+                stands[depth + 1].look(town, stand.nextWord(i));
                 goOn(depth + 1);
             }
         }

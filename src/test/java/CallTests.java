@@ -136,6 +136,9 @@ public final class CallTests {
             if (reached.get(method).contains(method)) {
                 CHECKS.due(name(method) + " is private",
                         method.getModifiers().contains(Modifier.PRIVATE), true);
+                CHECKS.due(name(method) + " calls itself only if it is static",
+                        calls.get(method).contains(method)
+                        && !method.getModifiers().contains(Modifier.STATIC), false);
             }
         }
     }
